@@ -1,3 +1,5 @@
+import java.util.Arrays;
+
 /** Long runs of mixed calls against a second reading of the document, written another way. */
 public final class ModelTest {
     private static final Checks checks = new Checks();
@@ -5,19 +7,21 @@ public final class ModelTest {
     private static final int RUNS = 200;
     private static final int CALLS = 500;
 
-    private static final int[] SEEDS = {
-        0, 1, -1, Integer.MIN_VALUE, Integer.MAX_VALUE, 0x7fff, 0x8000, 0xffff, 0x10000,
-        0x7fff << 4, 0x8000 << 4, 0x400000, 0x7fffff, 0x800000, 0xaaaaaaaa, 0x55555555
-    };
+    private static final int[] SEEDS = Frame.edgeSeeds();
 
     private static long state = 20261115L;
 
     public static void main(String[] args) {
+        checks.sentence("Everything observable through `addFrame`, `pull`, `pending` and `at` is fixed "
+                + "by the promises above.", ModelTest::mixedRuns);
+        checks.end();
+    }
+
+    private static void mixedRuns() {
         for (int run = 0; run < RUNS; run++) {
             // Some runs mostly add and some mostly pull, so that both ends are reached often.
             mixedRun(run, 10 + run % 80);
         }
-        checks.end();
     }
 
     private static void mixedRun(int run, int addsInHundred) {
@@ -51,8 +55,6 @@ public final class ModelTest {
 
     /** Never shifts: the whole output lies in one long line, and a pull moves the reading place. */
     private static final class Model {
-        private static final int[] WEIGHTS = {1, 2, 3, 4, 4, 3, 2, 1};
-
         private final int[] line = new int[4 * CALLS + 16];
         private int place = 0;
         private int pending = 0;
@@ -61,10 +63,8 @@ public final class ModelTest {
             if (pending == 3) {
                 return -1;
             }
-            for (int k = 0; k < 8; k++) {
-                long low = ((seed & 0xffffffffL) >> k) % 65536;
-                long sample = low < 32768 ? low : low - 65536;
-                line[place + 4 * pending + k] += (int) (WEIGHTS[k] * sample);
+            for (int k = 0; k < Frame.LENGTH; k++) {
+                line[place + 4 * pending + k] += Frame.product(seed, k);
             }
             pending = pending + 1;
             return pending;
@@ -78,7 +78,7 @@ public final class ModelTest {
         }
 
         int[] cells() {
-            return java.util.Arrays.copyOfRange(line, place, place + 16);
+            return Arrays.copyOfRange(line, place, place + 16);
         }
     }
 }

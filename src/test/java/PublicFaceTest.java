@@ -7,33 +7,52 @@ import java.util.TreeSet;
 
 /** The document's public face, and that nothing else can be seen from outside. */
 public final class PublicFaceTest {
+    private static final Class<?> FACE = OverlapAdd.class;
     private static final Checks checks = new Checks();
 
     public static void main(String[] args) {
-        Class<?> c = OverlapAdd.class;
-        checks.isTrue("public final", Modifier.isPublic(c.getModifiers()) && Modifier.isFinal(c.getModifiers()));
-        checks.isTrue("no package", c.getPackageName().isEmpty());
-        checks.isTrue("no parent but Object", c.getSuperclass() == Object.class && c.getInterfaces().length == 0);
-        checks.isTrue("no nested class", c.getDeclaredClasses().length == 0);
-        checks.isTrue("the members of the face, and no others: " + visibleMembers(c),
-                visibleMembers(c).equals(Set.of(
+        checks.sentence("public final class OverlapAdd", PublicFaceTest::classItself);
+        checks.sentence("public OverlapAdd() .. public int at(int i)", PublicFaceTest::membersOfTheFace);
+        checks.sentence("The class declares no public constants.", PublicFaceTest::noPublicConstants);
+        checks.end();
+    }
+
+    private static void classItself() {
+        int modifiers = FACE.getModifiers();
+        checks.isTrue("public final", Modifier.isPublic(modifiers) && Modifier.isFinal(modifiers));
+        checks.isTrue("no package", FACE.getPackageName().isEmpty());
+        checks.isTrue("no parent but Object",
+                FACE.getSuperclass() == Object.class && FACE.getInterfaces().length == 0);
+        checks.isTrue("no nested class", FACE.getDeclaredClasses().length == 0);
+    }
+
+    private static void membersOfTheFace() {
+        Set<String> seen = visibleMembers();
+        checks.isTrue("the members of the face, and no others: " + seen,
+                seen.equals(Set.of(
                         "public OverlapAdd()",
                         "public int OverlapAdd.addFrame(int)",
                         "public int OverlapAdd.pull()",
                         "public int OverlapAdd.pending()",
                         "public int OverlapAdd.at(int)")));
-        checks.end();
     }
 
-    private static Set<String> visibleMembers(Class<?> c) {
+    private static void noPublicConstants() {
+        checks.equal("number of public fields", FACE.getFields().length, 0);
+        for (Field field : FACE.getDeclaredFields()) {
+            checks.isTrue(field.getName() + " is private", Modifier.isPrivate(field.getModifiers()));
+        }
+    }
+
+    private static Set<String> visibleMembers() {
         Set<String> seen = new TreeSet<>();
-        for (Constructor<?> m : c.getDeclaredConstructors()) {
+        for (Constructor<?> m : FACE.getDeclaredConstructors()) {
             addIfVisible(seen, m.getModifiers(), m.toString());
         }
-        for (Method m : c.getDeclaredMethods()) {
+        for (Method m : FACE.getDeclaredMethods()) {
             addIfVisible(seen, m.getModifiers(), m.toString());
         }
-        for (Field f : c.getDeclaredFields()) {
+        for (Field f : FACE.getDeclaredFields()) {
             addIfVisible(seen, f.getModifiers(), f.toString());
         }
         return seen;
