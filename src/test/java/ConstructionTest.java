@@ -41,6 +41,8 @@ public final class ConstructionTest {
             int answer = x.at(i);
             if (answer != 0) {
                 checks.equal("new: at(" + i + ")", answer, 0);
+                // One wrong answer is enough: there could be four thousand million.
+                return;
             }
         } while (i++ != Integer.MAX_VALUE);
     }
