@@ -1,3 +1,5 @@
+import java.util.stream.IntStream;
+
 /** Promise 2: which samples a seed gives, and their weights. */
 public final class SampleTest {
     private static final Checks checks = new Checks();
@@ -21,22 +23,28 @@ public final class SampleTest {
         checks.end();
     }
 
-    /** No bit above 22 comes into a sample: all lower bits are gone through, with changing upper ones. */
+    /** All 2^32 of them, each on a new object. */
     private static void acceptsEverySeed() {
-        for (int low = 0; low < 1 << 23; low++) {
-            int seed = low | low * 40503 << 23;
-            OverlapAdd x = new OverlapAdd();
-            boolean asDue = x.addFrame(seed) == 1;
-            for (int k = 0; k < Frame.LENGTH; k++) {
-                asDue &= x.at(k) == Frame.product(seed, k);
-            }
-            if (!asDue) {
-                checks.state("addFrame(" + seed + ")", x, 1, frame(seed));
-                checks.isTrue("addFrame(" + seed + ") on a new object", asDue);
-                // One wrong answer is enough: there could be millions.
-                return;
-            }
+        // One wrong answer is enough: there could be four thousand million.
+        IntStream.rangeClosed(Integer.MIN_VALUE, Integer.MAX_VALUE).parallel()
+                .filter(seed -> !firstFrameAsDue(seed))
+                .findAny()
+                .ifPresent(seed -> {
+                    checks.isTrue("addFrame(" + seed + ") as due on a new object", false);
+                    firstFrame(seed, frame(seed));
+                });
+    }
+
+    private static boolean firstFrameAsDue(int seed) {
+        OverlapAdd x = new OverlapAdd();
+        boolean asDue = x.addFrame(seed) == 1;
+        for (int k = 0; k < Frame.LENGTH; k++) {
+            asDue &= x.at(k) == Frame.product(seed, k);
         }
+        for (int i = Frame.LENGTH; i < Checks.CELLS; i++) {
+            asDue &= x.at(i) == 0;
+        }
+        return asDue;
     }
 
     private static void acceptsNegativeValues() {
